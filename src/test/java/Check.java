@@ -1,0 +1,44 @@
+/** What the tests share: it tells each answer that is not the one that is due. */
+final class Check {
+  private int asked;
+  private int wrong;
+
+  void due(String call, long got, long want) {
+    asked++;
+    if (got != want) {
+      wrong++;
+      if (wrong <= 40) {
+        System.out.println(call + " answered " + got + ", due is " + want);
+      }
+    }
+  }
+
+  boolean good() {
+    return wrong == 0;
+  }
+
+  static void feed(RoundTypes x, int... numbers) {
+    for (int n : numbers) {
+      x.feed(n);
+    }
+  }
+
+  /** Feeds a text and reads it as a type. */
+  static int type(RoundTypes x, int... numbers) {
+    feed(x, numbers);
+    return x.type();
+  }
+
+  /** Feeds a text and reads it as a term. */
+  static int term(RoundTypes x, int... numbers) {
+    feed(x, numbers);
+    return x.term();
+  }
+
+  void end() {
+    System.out.println(asked - wrong + " answers are as due, " + wrong + " are not");
+    if (wrong != 0) {
+      System.exit(1);
+    }
+  }
+}
