@@ -27,12 +27,13 @@ public final class RoundTypes {
   private final Graph graph = new Graph();
   private final Order order = new Order(graph);
   private final Bounds bounds = new Bounds(graph);
-  private final TypeReader typeReader = new TypeReader(text, graph);
-  private final TermReader termReader = new TermReader(text, graph);
-  private final Checker checker = new Checker(graph, order, bounds);
-  private final Machine machine = new Machine();
+  /** The TERM, and room to read the next one in, as the one before stays if that has a fault. */
   private Program program = new Program();
   private Program spare = new Program();
+  private final TypeReader typeReader = new TypeReader(text, graph);
+  private final TermReader termReader = new TermReader(text, graph, spare);
+  private final Checker checker = new Checker(graph, order, bounds, spare);
+  private final Machine machine = new Machine(program);
   private boolean hasTerm;
   private int faultPlace = NONE;
 
@@ -111,7 +112,7 @@ public final class RoundTypes {
     if (!graph.has(a) || !graph.has(b)) {
       return BAD;
     }
-    return order.holds(a, b) ? 1 : 0;
+    return order.search(a, b) == NONE ? 1 : 0;
   }
 
   public int depth(int a, int b) {
@@ -279,41 +280,36 @@ public final class RoundTypes {
     }
 
     int kindOf(int n) {
-      return has(n) ? kinds[n] : NONE;
+      return n >= 0 && n < size ? kinds[n] : NONE;
     }
 
     int labelsOf(int n) {
-      return has(n) ? labels[n] : 0;
-    }
-
-    boolean hasPart(int n, int label) {
-      return has(n) && label >= 0 && label < LABELS && (labels[n] >> label & 1) == 1;
+      return n >= 0 && n < size ? labels[n] : 0;
     }
 
     int partOf(int n, int label) {
-      return hasPart(n, label) ? parts[n * LABELS + label] : NONE;
-    }
-
-    /** A node of a text: it may be one too many for now. */
-    int draft(int kind) {
-      return size < ROWS ? append(kind) : FULL;
+      boolean good = n >= 0 && n < size && label >= 0 && label < LABELS;
+      return good && (labels[n] >> label & 1) == 1 ? parts[n * LABELS + label] : NONE;
     }
 
     /** A node that stays, or FULL. */
     int make(int kind) {
-      return size < NODES ? append(kind) : FULL;
+      return size < NODES ? draft(kind) : FULL;
     }
 
-    private int append(int kind) {
-      int n = size;
-      kinds[n] = kind;
-      labels[n] = 0;
+    /** A node that may be one too many for now. */
+    int draft(int kind) {
+      if (size >= ROWS) {
+        return FULL;
+      }
+      kinds[size] = kind;
+      labels[size] = 0;
       size++;
-      return n;
+      return size - 1;
     }
 
     void setPart(int n, int label, int part) {
-      if (has(n) && label >= 0 && label < LABELS) {
+      if (n >= 0 && n < size && label >= 0 && label < LABELS) {
         labels[n] |= 1 << label;
         parts[n * LABELS + label] = part;
       }
@@ -343,10 +339,6 @@ public final class RoundTypes {
       this.graph = graph;
     }
 
-    boolean holds(int a, int b) {
-      return search(a, b) == NONE;
-    }
-
     int distance(int a, int b) {
       int entry = search(a, b);
       return entry == NONE ? NONE : stepsTo(entry);
@@ -354,17 +346,14 @@ public final class RoundTypes {
 
     int labelOnWay(int a, int b, int k) {
       int entry = search(a, b);
-      if (entry == NONE) {
-        return NONE;
-      }
-      int steps = stepsTo(entry);
+      int steps = entry == NONE ? 0 : stepsTo(entry);
       if (k < 0 || k >= steps) {
         return NONE;
       }
       for (int i = steps - 1; i > k; i--) {
         entry = cameFrom(entry);
       }
-      return labelOf(entry);
+      return entry >= 0 && entry < size ? (int) (queue[entry] >> 16 & 7) : NONE;
     }
 
     private int stepsTo(int entry) {
@@ -375,11 +364,13 @@ public final class RoundTypes {
       return steps;
     }
 
-    private int search(int a, int b) {
+    private int cameFrom(int entry) {
+      return entry >= 0 && entry < size ? (int) (queue[entry] >> 19) : 0;
+    }
+
+    /** The entry of the nearest two that do not fit; NONE: there are none such, a is BELOW b. */
+    int search(int a, int b) {
       forget();
-      if (!graph.has(a) || !graph.has(b)) {
-        return NONE;
-      }
       enter(a, b, 0, 0);
       for (int e = 0; e < size && e < PAIRS; e++) {
         int low = (int) (queue[e] >> 8 & 255);
@@ -392,9 +383,10 @@ public final class RoundTypes {
       return NONE;
     }
 
+    /** Walks the entries alone: most searches see few of the pairs. */
     private void forget() {
-      for (int e = 0; e < size; e++) {
-        int pair = pairOf((int) (queue[e] >> 8 & 255), (int) (queue[e] & 255));
+      for (int e = 0; e < size && e < PAIRS; e++) {
+        int pair = (int) (queue[e] >> 8 & 255) * NODES + (int) (queue[e] & 255);
         seen[pair >> 6] = 0;
       }
       size = 0;
@@ -417,37 +409,26 @@ public final class RoundTypes {
     /** Of two that fit at sight, the labels of which both have parts are just those that a rule speaks of. */
     private void enterParts(int a, int b, int from) {
       for (int label = 0; label < LABELS; label++) {
-        if (graph.hasPart(a, label) && graph.hasPart(b, label)) {
-          int x = graph.partOf(a, label);
-          int y = graph.partOf(b, label);
-          boolean turned = graph.kindOf(a) == FUNCTION && label == 0;
+        int x = graph.partOf(a, label);
+        int y = graph.partOf(b, label);
+        boolean turned = graph.kindOf(a) == FUNCTION && label == 0;
+        if (x != NONE && y != NONE) {
           enter(turned ? y : x, turned ? x : y, label, from);
         }
       }
     }
 
     private void enter(int a, int b, int label, int from) {
-      int pair = pairOf(a, b);
-      long bit = 1L << (pair & 63);
-      if ((seen[pair >> 6] & bit) != 0 || size >= PAIRS) {
+      if (a < 0 || a >= NODES || b < 0 || b >= NODES || size >= PAIRS) {
         return;
       }
-      seen[pair >> 6] |= bit;
-      queue[size] = (long) from << 19 | (long) label << 16 | (long) a << 8 | b;
-      size++;
-    }
-
-    private int pairOf(int a, int b) {
-      boolean good = a >= 0 && a < NODES && b >= 0 && b < NODES;
-      return good ? a * NODES + b : 0;
-    }
-
-    private int cameFrom(int entry) {
-      return entry >= 0 && entry < size ? (int) (queue[entry] >> 19) : 0;
-    }
-
-    private int labelOf(int entry) {
-      return entry >= 0 && entry < size ? (int) (queue[entry] >> 16 & 7) : NONE;
+      int pair = a * NODES + b;
+      long bit = 1L << (pair & 63);
+      if ((seen[pair >> 6] & bit) == 0) {
+        seen[pair >> 6] |= bit;
+        queue[size] = (long) from << 19 | (long) label << 16 | (long) a << 8 | b;
+        size++;
+      }
     }
   }
 
@@ -465,13 +446,27 @@ public final class RoundTypes {
       this.graph = graph;
     }
 
+    /** Goes on with the innermost node that lacks parts, so that what is made for a part is filled before the next. */
     int join(int how, int a, int b) {
       first = graph.size();
       open = 0;
       int answer = joinTop(how, a, b);
       int latest = answer;
       for (int turn = 0; open > 0 && latest != FULL && turn < NODES * (LABELS + 1); turn++) {
-        latest = goOn();
+        int top = open - 1;
+        int made = openNodes[top];
+        int label = nextLabels[top];
+        if (label >= LABELS) {
+          open = top;
+          continue;
+        }
+        nextLabels[top]++;
+        int x = graph.partOf(keys[made] >> 8 & 255, label);
+        int y = graph.partOf(keys[made] & 255, label);
+        latest = x != NONE && y != NONE ? joinTop(howOfPart(made, label), x, y) : lonePart(made, x, y);
+        if (latest >= 0) {
+          graph.setPart(made, label, latest);
+        }
       }
       if (latest == FULL) {
         graph.cutTo(first);
@@ -480,38 +475,20 @@ public final class RoundTypes {
       return answer;
     }
 
-    /** The next part of the innermost node that still lacks some; what is made for it is filled before the part after. */
-    private int goOn() {
-      int top = open - 1;
-      int label = nextLabels[top];
-      if (label >= LABELS) {
-        open--;
-        return openNodes[top];
-      }
-      nextLabels[top]++;
-      int part = joinParts(openNodes[top], label);
-      if (part >= 0) {
-        graph.setPart(openNodes[top], label, part);
-      }
-      return part;
+    private int howOfPart(int made, int label) {
+      int how = keys[made] >> 16;
+      boolean turned = graph.kindOf(made) == FUNCTION && label == 0;
+      return turned ? UNITED + MET - how : how;
     }
 
-    private int joinParts(int made, int label) {
-      int how = keys[made] >> 16;
-      int a = keys[made] >> 8 & 255;
-      int b = keys[made] & 255;
-      boolean inA = graph.hasPart(a, label);
-      boolean inB = graph.hasPart(b, label);
-      if (inA && inB) {
-        boolean turned = graph.kindOf(made) == FUNCTION && label == 0;
-        int partsHow = turned ? UNITED + MET - how : how;
-        return joinTop(partsHow, graph.partOf(a, label), graph.partOf(b, label));
-      }
-      boolean keepsAll = (graph.kindOf(made) == CHOICE) == (how == UNITED);
-      if (!keepsAll || !inA && !inB) {
+    /** The part that one of two has, where that stays; NONE: it does not, or there is none. */
+    private int lonePart(int made, int x, int y) {
+      boolean united = keys[made] >> 16 == UNITED;
+      boolean choice = graph.kindOf(made) == CHOICE;
+      if (united != choice) {
         return NONE;
       }
-      return inA ? graph.partOf(a, label) : graph.partOf(b, label);
+      return x != NONE ? x : y;
     }
 
     private int joinTop(int how, int a, int b) {
@@ -546,8 +523,8 @@ public final class RoundTypes {
     }
 
     private int makeFor(int key, int kind) {
-      int made = graph.make(kind);
-      if (made == FULL) {
+      int made = graph.size() < NODES ? graph.draft(kind) : FULL;
+      if (made < 0 || made >= NODES) {
         return FULL;
       }
       keys[made] = key;
@@ -704,36 +681,37 @@ public final class RoundTypes {
     }
 
     void add(int term) {
-      if (inside(term)) {
+      if (term >= 0 && term < TEXT) {
         kidCounts[term] = 0;
       }
     }
 
     void addKid(int term, int kid) {
-      if (inside(term) && kidCounts[term] < KIDS) {
+      if (term >= 0 && term < TEXT && kidCounts[term] < KIDS) {
         kids[term * KIDS + kidCounts[term]] = kid;
         kidCounts[term]++;
       }
     }
 
     void setOuter(int term, int around) {
-      if (inside(term)) {
+      if (term >= 0 && term < TEXT) {
         outer[term] = around;
       }
     }
 
     void setHome(int variable, int term) {
-      if (inside(variable)) {
+      if (variable >= 0 && variable < TEXT) {
         homes[variable] = term;
       }
     }
 
+    /** The word or number at a place. */
     int word(int place) {
-      return inside(place) ? words[place] : NONE;
+      return place >= 0 && place < TEXT ? words[place] : NONE;
     }
 
     int kidCount(int term) {
-      return inside(term) ? kidCounts[term] : 0;
+      return term >= 0 && term < TEXT ? kidCounts[term] : 0;
     }
 
     int kid(int term, int i) {
@@ -742,28 +720,24 @@ public final class RoundTypes {
 
     /** The terms in a term by the order in which they are done, NONE behind them: of 32 the last stands first. */
     int kidInTurn(int term, int i) {
-      int kids = kidCount(term);
-      if (word(term) != SORT || i >= kids) {
+      int count = kidCount(term);
+      if (word(term) != SORT || i >= count) {
         return kid(term, i);
       }
-      return i == 0 ? kid(term, kids - 1) : kid(term, i - 1);
+      return i == 0 ? kid(term, count - 1) : kid(term, i - 1);
     }
 
-    /** The label stands right before its term. */
+    /** The label of a term in a 29 or 32, which stands right before it. */
     int labelOf(int kid) {
-      return word(kid - 1);
+      return kid > 0 && kid <= TEXT ? words[kid - 1] : NONE;
     }
 
     int outer(int term) {
-      return inside(term) ? outer[term] : NONE;
+      return term >= 0 && term < TEXT ? outer[term] : NONE;
     }
 
     int home(int variable) {
-      return inside(variable) ? homes[variable] : NONE;
-    }
-
-    private boolean inside(int place) {
-      return place >= 0 && place < TEXT;
+      return variable >= 0 && variable < TEXT ? homes[variable] : NONE;
     }
   }
 
@@ -779,9 +753,10 @@ public final class RoundTypes {
     private final int[] scopes = new int[TEXT];
     private int open;
 
-    TermReader(Text text, Graph graph) {
+    TermReader(Text text, Graph graph, Program program) {
       this.text = text;
       this.graph = graph;
+      this.program = program;
     }
 
     boolean read(Program into) {
@@ -909,7 +884,7 @@ public final class RoundTypes {
       if (!text.take(0, LABELS - 1)) {
         return false;
       }
-      return graph.hasPart(choice, text.taken()) || text.fail(ODD, at + 2);
+      return graph.partOf(choice, text.taken()) != NONE || text.fail(ODD, at + 2);
     }
 
     private void push(int at, int kids, int scope) {
@@ -949,10 +924,11 @@ public final class RoundTypes {
     private int open;
     private int misfitPlace;
 
-    Checker(Graph graph, Order order, Bounds bounds) {
+    Checker(Graph graph, Order order, Bounds bounds, Program program) {
       this.graph = graph;
       this.order = order;
       this.bounds = bounds;
+      this.program = program;
     }
 
     int misfitPlace() {
@@ -960,14 +936,25 @@ public final class RoundTypes {
     }
 
     /** The node of the type, MISFIT or FULL; the caller takes the nodes back at a fault. */
-    int check(Program term) {
-      program = term;
+    int check(Program whole) {
+      program = whole;
       misfitPlace = NONE;
       open = 0;
       push(0);
       int latest = NONE;
       for (int turn = 0; open > 0 && turn <= 2 * TEXT; turn++) {
-        latest = goOn();
+        int top = open - 1;
+        int term = openTerms[top];
+        int kid = program.kidInTurn(term, nextKids[top]);
+        if (kid == NONE) {
+          open = top;
+          latest = joinBranches(term, typeOf(term));
+          setType(term, latest);
+        } else {
+          latest = bindIn(term, kid, nextKids[top]);
+          nextKids[top]++;
+          push(kid);
+        }
         if (latest == MISFIT || latest == FULL) {
           return latest;
         }
@@ -975,18 +962,13 @@ public final class RoundTypes {
       return latest;
     }
 
-    private int goOn() {
-      int top = open - 1;
-      int term = openTerms[top];
-      int kid = program.kidInTurn(term, nextKids[top]);
-      if (kid == NONE) {
-        open = top;
-        return conclude(term);
+    private void setType(int term, int type) {
+      if (type == MISFIT) {
+        misfitPlace = term;
       }
-      int bound = bindIn(term, kid, nextKids[top]);
-      nextKids[top]++;
-      push(kid);
-      return bound;
+      if (term >= 0 && term < TEXT) {
+        types[term] = type;
+      }
     }
 
     private void push(int term) {
@@ -1014,8 +996,8 @@ public final class RoundTypes {
 
     private int typeOfCase(int term, int label) {
       int sorted = typeIn(term, program.kidCount(term) - 1);
-      boolean has = graph.kindOf(sorted) == CHOICE && graph.hasPart(sorted, label);
-      return has ? graph.partOf(sorted, label) : graph.make(NOTHING);
+      int part = graph.kindOf(sorted) == CHOICE ? graph.partOf(sorted, label) : NONE;
+      return part != NONE ? part : graph.make(NOTHING);
     }
 
     private int typeIn(int term, int i) {
@@ -1023,17 +1005,19 @@ public final class RoundTypes {
       return kid >= 0 && kid < TEXT ? types[kid] : NONE;
     }
 
-    private int conclude(int term) {
-      int type = typeOf(term);
-      if (type == MISFIT) {
-        misfitPlace = term;
+    /** What is left to do for the type of 28 and 32: their first branch's becomes all branches' UNITED. */
+    private int joinBranches(int term, int type) {
+      int word = program.word(term);
+      int next = word == WHETHER ? 2 : 1;
+      int end = word == WHETHER ? 3 : word == SORT ? program.kidCount(term) - 1 : 0;
+      int joined = type;
+      for (int i = next; i < end && joined >= 0; i++) {
+        joined = bounds.join(UNITED, joined, typeIn(term, i));
       }
-      if (term >= 0 && term < TEXT) {
-        types[term] = type;
-      }
-      return type;
+      return joined;
     }
 
+    /** The type, but of 28 and 32 only that of the first branch. */
     private int typeOf(int term) {
       switch (program.word(term)) {
         case VARIABLE:
@@ -1052,7 +1036,7 @@ public final class RoundTypes {
         case FALSE:
           return graph.make(BOOL);
         case WHETHER:
-          return isOrNothing(typeIn(term, 0), BOOL) ? bounds.join(UNITED, typeIn(term, 1), typeIn(term, 2)) : MISFIT;
+          return isOrNothing(typeIn(term, 0), BOOL) ? typeIn(term, 1) : MISFIT;
         case GATHER:
           return typeOfGather(term);
         case PICK:
@@ -1062,7 +1046,7 @@ public final class RoundTypes {
         case SORT:
           return typeOfSort(term);
         case ITSELF:
-          return order.holds(typeIn(term, 0), program.word(term + 1)) ? program.word(term + 1) : MISFIT;
+          return typeOfItself(program.word(term + 1), typeIn(term, 0));
         default:
           return MISFIT;
       }
@@ -1092,7 +1076,7 @@ public final class RoundTypes {
       if (graph.kindOf(function) == NOTHING) {
         return function;
       }
-      boolean fits = graph.kindOf(function) == FUNCTION && order.holds(argument, graph.partOf(function, 0));
+      boolean fits = graph.kindOf(function) == FUNCTION && order.search(argument, graph.partOf(function, 0)) == NONE;
       return fits ? graph.partOf(function, 1) : MISFIT;
     }
 
@@ -1108,12 +1092,12 @@ public final class RoundTypes {
       if (graph.kindOf(record) == NOTHING) {
         return record;
       }
-      boolean fits = graph.kindOf(record) == RECORD && graph.hasPart(record, label);
-      return fits ? graph.partOf(record, label) : MISFIT;
+      int part = graph.kindOf(record) == RECORD ? graph.partOf(record, label) : NONE;
+      return part != NONE ? part : MISFIT;
     }
 
     private int typeOfTag(int choice, int label, int part) {
-      return order.holds(part, graph.partOf(choice, label)) ? choice : MISFIT;
+      return order.search(part, graph.partOf(choice, label)) == NONE ? choice : MISFIT;
     }
 
     private int typeOfSort(int term) {
@@ -1123,18 +1107,14 @@ public final class RoundTypes {
         labels |= 1 << program.labelOf(program.kid(term, i));
       }
       int sorted = typeIn(term, cases);
-      boolean fits = isOrNothing(sorted, CHOICE) && (graph.labelsOf(sorted) & ~labels) == 0;
-      if (!fits) {
+      if (!isOrNothing(sorted, CHOICE) || (graph.labelsOf(sorted) & ~labels) != 0) {
         return MISFIT;
       }
-      if (cases == 0) {
-        return graph.make(NOTHING);
-      }
-      int type = typeIn(term, 0);
-      for (int i = 1; i < cases && type != FULL; i++) {
-        type = bounds.join(UNITED, type, typeIn(term, i));
-      }
-      return type;
+      return cases == 0 ? graph.make(NOTHING) : typeIn(term, 0);
+    }
+
+    private int typeOfItself(int type, int found) {
+      return order.search(found, type) == NONE ? type : MISFIT;
     }
   }
 
@@ -1203,14 +1183,12 @@ public final class RoundTypes {
     }
 
     int partOf(int k, int label) {
-      return has(k) && label >= 0 && label < LABELS && hasLabel(k, label) ? parts[k * LABELS + label] : NONE;
-    }
-
-    private boolean hasLabel(int k, int label) {
-      if (kinds[k] == RECORD) {
-        return (numbers[k] >> label & 1) == 1;
+      if (!has(k) || label < 0 || label >= LABELS) {
+        return NONE;
       }
-      return kinds[k] == CHOICE && numbers[k] == label;
+      boolean inRecord = kinds[k] == RECORD && (numbers[k] >> label & 1) == 1;
+      boolean inChoice = kinds[k] == CHOICE && numbers[k] == label;
+      return inRecord || inChoice ? parts[k * LABELS + label] : NONE;
     }
   }
 
@@ -1264,6 +1242,10 @@ public final class RoundTypes {
     /** The value that the due 21 is to be, being the E of a 33. */
     private int dueSelf;
     private int got;
+
+    Machine(Program program) {
+      this.program = program;
+    }
 
     Values values() {
       return values;

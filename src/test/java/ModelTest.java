@@ -308,9 +308,82 @@ final class ModelTest {
     }
   }
 
+  /** Two types of nearly the same text, so that what does not fit lies deep. */
+  private void askTwins() {
+    out.clear();
+    makeType(4 + pick(4), 0);
+    List<Integer> text = new ArrayList<>(out);
+    int before = model.count(0);
+    feedOut();
+    int a = due("type() " + out, real.type(), model.type());
+    out.clear();
+    out.addAll(text);
+    for (int i = pick(3); i >= 0; i--) {
+      int at = pick(out.size());
+      int n = out.get(at);
+      if (n >= 1 && n <= 4) {
+        out.set(at, 1 + pick(4));
+      }
+    }
+    feedOut();
+    int b = due("type() " + out, real.type(), model.type());
+    if (a >= 0 && b >= 0) {
+      askOrder(a, b);
+      askOrder(b, a);
+      tally("unite", due("unite(" + a + ", " + b + ")", real.unite(a, b), model.unite(a, b)));
+      tally("meet", due("meet(" + a + ", " + b + ")", real.meet(a, b), model.meet(a, b)));
+    }
+    askNodes(before);
+  }
+
+  /** Nodes until few are left, for what FULL says. */
+  private void fill() {
+    int most = 200 - pick(30);
+    while (model.count(0) < most) {
+      out.clear();
+      makeType(5, 0);
+      feedOut();
+      due("type() " + out, real.type(), model.type());
+      if (model.count(0) < most && model.count(0) > 0 && pick(4) == 0) {
+        askBounds();
+      }
+    }
+  }
+
+  /** A function that calls itself up to some number; its sum waits, its choice does not. */
+  private void askLoop() {
+    out.clear();
+    add(5, 3, 3);
+    feedOut();
+    int f = due("type()", real.type(), model.type());
+    if (f < 0) {
+      return;
+    }
+    int times = pick(400);
+    boolean waits = pick(2) == 0;
+    boolean round = pick(3) == 0;
+    out.clear();
+    add(22, 33, f, 21, f + 1, 28, 25, 20, 0, 23, times);
+    if (waits) {
+      add(24, 20, 0);
+    }
+    add(22, 20, 1);
+    if (round) {
+      add(20, 0);
+    } else {
+      add(24, 20, 0, 23, 1 + pick(3));
+    }
+    add(20, 0, 23, 0);
+    feedOut();
+    tally("term", due("term() " + out, real.term(), model.term()));
+    askRun();
+  }
+
   private void askOrder() {
-    int a = pick(model.count(0));
-    int b = pick(model.count(0));
+    askOrder(pick(model.count(0)), pick(model.count(0)));
+  }
+
+  private void askOrder(int a, int b) {
     String two = a + ", " + b;
     due("below(" + two + ")", real.below(a, b), model.below(a, b));
     int d = due("depth(" + two + ")", real.depth(a, b), model.depth(a, b));
@@ -379,9 +452,16 @@ final class ModelTest {
     real = new RoundTypes();
     model = new Model();
     int most = pick(8) == 0 ? 40 : 14;
+    if (number % 10 == 0) {
+      fill();
+    }
     for (int i = 0; i < most && check.good(); i++) {
-      int what = pick(20);
-      if (what < 5 || model.count(0) == 0) {
+      int what = pick(23);
+      if (what > 20) {
+        askTwins();
+      } else if (what == 20) {
+        askLoop();
+      } else if (what < 5 || model.count(0) == 0) {
         askType();
       } else if (what < 8) {
         askOrder();
