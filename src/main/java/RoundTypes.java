@@ -9,6 +9,7 @@ public final class RoundTypes {
 
   private static final int TEXT = 200, NODES = 200, LABELS = 8, NAMES = 10;
   private static final int STEPS = 20000, VALUES = 2000, OPEN = 300;
+  private static final int LEAST = -2147483648, GREATEST = 2147483647;
 
   /** The kinds of types, and of values. */
   private static final int ALL = 0, NOTHING = 1, INT = 2, BOOL = 3, FUNCTION = 4, RECORD = 5, CHOICE = 6;
@@ -838,7 +839,7 @@ public final class RoundTypes {
         case ITSELF:
           return text.take(0, graph.size() - 1) ? 1 : NONE;
         case NUMBER:
-          return text.take(Integer.MIN_VALUE, Integer.MAX_VALUE) ? 0 : NONE;
+          return text.take(LEAST, GREATEST) ? 0 : NONE;
         case GATHER:
           return text.take(0, LABELS) ? text.taken() : NONE;
         case SORT:
@@ -859,7 +860,7 @@ public final class RoundTypes {
     }
 
     private boolean readVariable(int at, int scope) {
-      if (!text.take(0, Integer.MAX_VALUE)) {
+      if (!text.take(0, GREATEST)) {
         return false;
       }
       int home = scope;

@@ -79,6 +79,11 @@ final class BoundsTest {
     node(x, 15, 5, 0);
     CHECK.due("with an empty one, met", x.meet(none, a), 16);
     node(x, 16, 5, 22, 1, 2, 3);
+    x.clear();
+    int itself = Check.type(x, 8, 0, 6, 1, 5, 9, 0);
+    int other = Check.type(x, 6, 1, 2, 3);
+    CHECK.due("node 0 as a part", x.meet(other, itself), 3);
+    node(x, 3, 5, 36, 2, 0);
   }
 
   private static void choices() {

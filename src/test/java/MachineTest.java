@@ -103,6 +103,10 @@ final class MachineTest {
     // 33 and its 21 are two steps and one value.
     value(done(0, 1, 2, 33, INT_INT, 21, INT, 20, 0), 0, 4, 0);
     value(done(1, 2, 5, 22, 33, INT_INT, 21, INT, 20, 0, 23, 3), 1, 2, 3);
+    // The next 21 has a value of its own.
+    RoundTypes y = done(2, 3, 4, 29, 2, 0, 33, INT_INT, 21, INT, 20, 0, 1, 21, INT, 23, 6);
+    CHECK.due("the first part", y.value(2, 2), 0);
+    CHECK.due("the second part", y.value(2, 3), 1);
   }
 
   private static void itself() {
@@ -147,6 +151,32 @@ final class MachineTest {
     CHECK.due("the last one", x.value(1999, 0), 3);
     // 2 values, 499 calls' 4 and the 23 and 25: the 23 of the call's argument is begun and has no room.
     CHECK.due("their steps", x.count(3), 4 + 499 * 9 + 9);
+  }
+
+  /** A term whose value is the one too many, when it is begun or when all in it is done. */
+  private static void lastValue(int... text) {
+    RoundTypes x = base();
+    // 1996 values come of these 498 calls.
+    int[] calls = {22, 33, INT_INT, 21, INT, 28, 25, 20, 0, 23, 498, 22, 20, 1, 24, 20, 0, 23, 1, 20, 0, 23, 0};
+    Check.feed(x, text);
+    CHECK.due("a term", Check.term(x, calls) >= 0 ? 1 : 0, 1);
+    CHECK.due("one too many", x.run(20000), ROOM);
+    CHECK.due("values", x.count(2), 2000);
+    int steps = x.count(3);
+    CHECK.due("its last step", x.run(steps), ROOM);
+    CHECK.due("before that", x.run(steps - 1), NONE);
+  }
+
+  private static void lastValues() {
+    // Each is a 21 by those calls; what comes behind them are 3 values and the one too many.
+    lastValue(22, 21, INT, 24, 23, 0, 30, 0, 29, 1, 0, 23, 0);
+    lastValue(22, 21, INT, 25, 23, 0, 30, 0, 29, 1, 0, 23, 0);
+    lastValue(22, 21, INT, 24, 23, 0, 24, 23, 0, 23, 0);
+    lastValue(22, 21, INT, 29, 3, 0, 26, 1, 27, 2, 23, 0);
+    lastValue(22, 21, INT, 31, CHOICE, 1, 24, 23, 0, 23, 1);
+    lastValue(22, 21, INT, 29, 4, 0, 26, 1, 27, 2, 23, 0, 3, 21, INT, 20, 0);
+    lastValue(22, 21, INT, 29, 4, 0, 26, 1, 27, 2, 23, 0, 3, 33, INT_INT, 21, INT, 20, 0);
+    lastValue(22, 21, INT, 29, 4, 0, 26, 1, 27, 2, 23, 0, 3, 29, 0);
   }
 
   private static void deepCalls() {
@@ -242,6 +272,7 @@ final class MachineTest {
     functions();
     itself();
     manyCalls();
+    lastValues();
     deepCalls();
     openTerms();
     endless();

@@ -186,6 +186,7 @@ final class TermTest {
     fault(MISFIT, 0, 28, 23, 1, 23, 1, 23, 2);
     fault(MISFIT, 5, 28, 23, 1, 23, 1, 24, 26, 26);
     good(BASE + 1, 2, 21, NOTHING, 28, 20, 0, 20, 0, 23, 1);
+    kind(good(BASE + 3, 4, 21, INT, 28, 26, 20, 0, 26), BASE + 2, 0, 0);
     RoundTypes y = good(BASE + 7, 9, 28, 26, 29, 2, 0, 26, 1, 23, 1, 29, 2, 0, 23, 1, 2, 26);
     kind(y, BASE + 7, 5, 1);
     CHECK.due("the part of records united", y.node(BASE + 7, 2), BASE + 8);
@@ -214,6 +215,7 @@ final class TermTest {
     fault(MISFIT, 0, 32, 1, 4, 20, 0, 31, CHOICE, 4, 26);
     fault(MISFIT, 0, 32, 1, 1, 26, 31, CHOICE, 4, 26);
     fault(MISFIT, 0, 32, 1, 1, 26, 23, 1);
+    fault(MISFIT, 0, 32, 1, 1, 23, 4, 31, CHOICE, 1, 23, 9);
     fault(MISFIT, 0, 32, 0, 23, 1);
     RoundTypes x = good(BASE + 1, 2, 21, EMPTY, 32, 0, 20, 0);
     kind(x, BASE, 1, 0);
