@@ -13,6 +13,18 @@ final class Check {
     }
   }
 
+  /** A node of a kind and labels: its parts by rising labels, and that there are no others. */
+  void node(RoundTypes x, int k, int kind, int labels, int... parts) {
+    due("kind of " + k, x.node(k, 0), kind);
+    due("labels of " + k, x.node(k, 1), labels);
+    int next = 0;
+    for (int l = 0; l < 9; l++) {
+      boolean has = (labels >> l & 1) == 1;
+      due("part " + l + " of " + k, x.node(k, l + 2), has ? parts[next] : RoundTypes.NONE);
+      next += has ? 1 : 0;
+    }
+  }
+
   boolean good() {
     return wrong == 0;
   }

@@ -65,52 +65,40 @@ final class TypeTest {
     fault(SHORT, 3, 8, 0, 9);
   }
 
-  private static void node(RoundTypes x, int k, int kind, int labels, int... parts) {
-    CHECK.due("kind of " + k, x.node(k, 0), kind);
-    CHECK.due("labels of " + k, x.node(k, 1), labels);
-    int next = 0;
-    for (int l = 0; l < 8; l++) {
-      boolean has = (labels >> l & 1) == 1;
-      CHECK.due("part " + l + " of " + k, x.node(k, l + 2), has ? parts[next] : NONE);
-      next += has ? 1 : 0;
-    }
-    CHECK.due("part 8 of " + k, x.node(k, 10), NONE);
-  }
-
   private static void nodes() {
     RoundTypes x = new RoundTypes();
     for (int kind = 0; kind < 4; kind++) {
       CHECK.due("type() of a word", Check.type(x, kind + 1), kind);
-      node(x, kind, kind, 0);
+      CHECK.node(x, kind, kind, 0);
     }
     CHECK.due("a function", Check.type(x, 5, 6, 0, 5, 4, 3), 4);
-    node(x, 4, 4, 3, 5, 6);
-    node(x, 5, 5, 0);
-    node(x, 6, 4, 3, 7, 8);
-    node(x, 7, 3, 0);
-    node(x, 8, 2, 0);
+    CHECK.node(x, 4, 4, 3, 5, 6);
+    CHECK.node(x, 5, 5, 0);
+    CHECK.node(x, 6, 4, 3, 7, 8);
+    CHECK.node(x, 7, 3, 0);
+    CHECK.node(x, 8, 2, 0);
     CHECK.due("a record", Check.type(x, 6, 2, 1, 7, 0, 6, 3), 9);
-    node(x, 9, 5, 66, 10, 11);
-    node(x, 10, 6, 0);
+    CHECK.node(x, 9, 5, 66, 10, 11);
+    CHECK.node(x, 10, 6, 0);
     CHECK.due("a choice of all labels", Check.type(x, 7, 8, 0, 1, 1, 2, 2, 3, 3, 4, 4, 1, 5, 2, 6, 3, 7, 4), 12);
-    node(x, 12, 6, 255, 13, 14, 15, 16, 17, 18, 19, 20);
+    CHECK.node(x, 12, 6, 255, 13, 14, 15, 16, 17, 18, 19, 20);
     CHECK.due("count(0)", x.count(0), 21);
   }
 
   private static void round() {
     RoundTypes x = new RoundTypes();
     CHECK.due("itself", Check.type(x, 8, 9, 5, 9, 9, 9, 9), 0);
-    node(x, 0, 4, 3, 0, 0);
+    CHECK.node(x, 0, 4, 3, 0, 0);
     CHECK.due("two names", Check.type(x, 8, 0, 5, 8, 1, 6, 2, 0, 9, 0, 1, 9, 1, 9, 0), 1);
-    node(x, 1, 4, 3, 2, 1);
-    node(x, 2, 5, 3, 1, 2);
+    CHECK.node(x, 1, 4, 3, 2, 1);
+    CHECK.node(x, 2, 5, 3, 1, 2);
     CHECK.due("the inner of one name", Check.type(x, 8, 0, 5, 8, 0, 5, 3, 9, 0, 9, 0), 3);
-    node(x, 3, 4, 3, 4, 3);
-    node(x, 4, 4, 3, 5, 4);
+    CHECK.node(x, 3, 4, 3, 4, 3);
+    CHECK.node(x, 4, 4, 3, 5, 4);
     CHECK.due("8s alone, and then a 9", Check.type(x, 8, 0, 5, 8, 1, 8, 2, 9, 0, 3), 6);
-    node(x, 6, 4, 3, 6, 7);
+    CHECK.node(x, 6, 4, 3, 6, 7);
     CHECK.due("an 8 of a plain type", Check.type(x, 8, 3, 8, 3, 2), 8);
-    node(x, 8, 1, 0);
+    CHECK.node(x, 8, 1, 0);
     CHECK.due("count(0)", x.count(0), 9);
   }
 
