@@ -1195,8 +1195,8 @@ public final class RoundTypes {
 
   /** What is bound while the machine runs: chains of cells that functions share. */
   private static final class Cells {
-    /** Each cell takes two steps of its own at least: those that begin its 22, 32 or 33 and the first term in that. */
-    private static final int MOST = STEPS / 2 + 1;
+    /** A cell is bound for a 22, 32 or 33 that was begun, one for each, so there are no more of them than steps. */
+    private static final int MOST = STEPS;
     private final int[] bound = new int[MOST];
     private final int[] outer = new int[MOST];
     private int size;

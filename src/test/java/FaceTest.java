@@ -90,7 +90,7 @@ final class FaceTest {
     RoundTypes x = new RoundTypes();
     long[] before = room(x);
     System.out.println("an object: " + before[0] + " objects and arrays, " + before[1] + " fields and elements");
-    CHECK.due("a small object", before[1] <= 110_000 ? 1 : 0, 1);
+    CHECK.due("a small object", before[1] <= 125_000 ? 1 : 0, 1);
     Check.type(x, 5, 3, 3);
     Check.term(x, 22, 33, 0, 21, 1, 28, 25, 20, 0, 23, 90, 22, 20, 1, 24, 20, 0, 23, 1, 20, 0, 23, 0);
     for (int i = 0; i < 100; i++) {

@@ -237,6 +237,65 @@ final class MachineTest {
     CHECK.due("values", x.count(2), 3);
   }
 
+  /** 0 INT, 1 INT to INT, 4 such a function to ALL, 9 a choice. */
+  private static RoundTypes roundBase() {
+    RoundTypes x = new RoundTypes();
+    Check.type(x, 3);
+    Check.type(x, 5, 3, 3);
+    Check.type(x, 5, 5, 3, 3, 1);
+    Check.type(x, 7, 1, 0, 1);
+    return x;
+  }
+
+  /**
+   * A function that applies itself for ever, by way of so many 22s of two 33s (5 steps, 2 values, 3 variables each) and
+   * so many 32s of a variable (2 steps, no value, 1 variable): as many variables as can be bound in 20000 steps.
+   */
+  private static RoundTypes goingRound(int applied, int sorted) {
+    RoundTypes x = roundBase();
+    Check.feed(x, 22, 21, 9, 22, 33, 4, 21, 1);
+    for (int i = 0; i < applied; i++) {
+      Check.feed(x, 22, 33, 4, 21, 1);
+    }
+    for (int i = 0; i < sorted; i++) {
+      Check.feed(x, 32, 1, 0);
+    }
+    int bound = 2 * applied + sorted;
+    Check.feed(x, 22, 20, bound + 1, 33, 1, 21, 0, 20, 0);
+    for (int i = 0; i < sorted; i++) {
+      Check.feed(x, 20, bound + 1 - i);
+    }
+    for (int i = 0; i < applied; i++) {
+      Check.feed(x, 33, 1, 21, 0, 20, 0);
+    }
+    CHECK.due("a term that goes round", Check.term(x, 21, 0, 20, 0, 31, 9, 0, 23, 0), 8);
+    return x;
+  }
+
+  private static void manyVariables(int applied, int sorted) {
+    String name = " of " + applied + " 22s and " + sorted + " 32s";
+    RoundTypes x = goingRound(applied, sorted);
+    int steps = 4 + 5 * applied + 2 * sorted;
+    int values = 1 + 2 * applied;
+    int rounds = (20000 - 8) / steps;
+    CHECK.due("whole rounds" + name, x.run(8 + rounds * steps), NONE);
+    CHECK.due("their values" + name, x.count(2), 5 + rounds * values);
+    CHECK.due("run(20000)" + name, x.run(20000), NONE);
+    CHECK.due("its steps" + name, x.count(3), 20000);
+  }
+
+  private static void goingRound() {
+    manyVariables(0, 4);
+    manyVariables(0, 33);
+    manyVariables(1, 11);
+    manyVariables(2, 19);
+    manyVariables(3, 26);
+    // With fewer 32s there are too many values before the steps are used up.
+    RoundTypes x = goingRound(1, 1);
+    CHECK.due("run(20000) with many values", x.run(20000), ROOM);
+    CHECK.due("its values", x.count(2), 2000);
+  }
+
   private static void wrong() {
     RoundTypes x = base();
     CHECK.due("no term", x.run(10), BAD);
@@ -276,6 +335,7 @@ final class MachineTest {
     deepCalls();
     openTerms();
     endless();
+    goingRound();
     wrong();
     CHECK.end();
   }

@@ -379,6 +379,93 @@ final class ModelTest {
     askRun();
   }
 
+  /** A function that applies itself for ever, in a body that binds many variables on the way there. */
+  private void askRound() {
+    out.clear();
+    add(6, 3, 0, 5, 3, 3, 1, 5, 5, 3, 3, 3, 2, 7, 1, 2, 3);
+    feedOut();
+    int first = due("type() " + out, real.type(), model.type());
+    if (first < 0) {
+      return;
+    }
+    Model.Node all = model.nodes.get(first);
+    int f = all.parts[0];
+    int number = model.nodes.get(f).parts[0];
+    int loop = all.parts[1];
+    int choice = all.parts[2];
+    List<Integer> env = List.of(f, loop, number, f, choice);
+    out.clear();
+    add(22, 21, choice, 22, 21, f, 22, 21, number, 22, 33, loop, 21, f);
+    makeRound(first, env, 1 + pick(40), pick(6), env.size() - 2);
+    makeSmall(first, f, env.subList(2, 5));
+    makeSmall(first, number, env.subList(3, 5));
+    makeSmall(first, f, env.subList(4, 5));
+    add(31, choice, 2, 23, 1);
+    feedOut();
+    tally("round", due("term() " + out, real.term(), model.term()));
+    askRun();
+    tally("long run", due("run(20000)", real.run(20000), model.run(20000)));
+    due("count(2)", real.count(2), model.count(2));
+    due("count(3)", real.count(3), model.count(3));
+  }
+
+  /** self: how many are bound around the variable of the function that is applied again. */
+  private void makeRound(int first, List<Integer> env, int fuel, int dense, int self) {
+    int f = model.nodes.get(first).parts[0];
+    int loop = model.nodes.get(first).parts[1];
+    int choice = model.nodes.get(first).parts[2];
+    int number = model.nodes.get(f).parts[0];
+    if (fuel <= 0) {
+      add(22, 20, env.size() - 1 - self);
+      makeSmall(first, f, env);
+      return;
+    }
+    switch (pick(dense == 0 ? 5 : 6 * dense)) {
+      case 0 -> {
+        add(22, 33, loop, 21, f);
+        makeRound(first, inside(inside(env, loop), f), fuel - 3, dense, self);
+        makeSmall(first, f, env);
+      }
+      case 1 -> {
+        int type = pick(2) == 0 ? f : number;
+        add(22, 21, type);
+        makeRound(first, inside(env, type), fuel - 2, dense, self);
+        makeSmall(first, type, env);
+      }
+      case 2 -> {
+        add(28, 26 + pick(2));
+        if (out.get(out.size() - 1) == 26) {
+          makeRound(first, env, fuel - 1, dense, self);
+          makeSmall(first, number, env);
+        } else {
+          makeSmall(first, number, env);
+          makeRound(first, env, fuel - 1, dense, self);
+        }
+      }
+      default -> {
+        add(32, 1, 2);
+        makeRound(first, inside(env, number), fuel - 1, dense, self);
+        add(20, env.lastIndexOf(choice));
+      }
+    }
+  }
+
+  /** A short term of the type of a function or a number: mostly a variable. */
+  private void makeSmall(int first, int type, List<Integer> env) {
+    boolean function = type == (int) model.nodes.get(first).parts[0];
+    int number = model.nodes.get(model.nodes.get(first).parts[0]).parts[0];
+    int k = env.indexOf(type);
+    if (k >= 0 && pick(3) > 0) {
+      add(20, k);
+    } else if (function && pick(3) > 0) {
+      add(33, type, 21, number, 20, 0);
+    } else if (function) {
+      add(21, number, 20, 0);
+    } else {
+      add(23, pick(9));
+    }
+  }
+
   private void askOrder() {
     askOrder(pick(model.count(0)), pick(model.count(0)));
   }
@@ -456,8 +543,10 @@ final class ModelTest {
       fill();
     }
     for (int i = 0; i < most && check.good(); i++) {
-      int what = pick(23);
-      if (what > 20) {
+      int what = pick(24);
+      if (what > 22) {
+        askRound();
+      } else if (what > 20) {
         askTwins();
       } else if (what == 20) {
         askLoop();
