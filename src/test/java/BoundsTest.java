@@ -4,7 +4,7 @@ final class BoundsTest {
   private static final Check CHECK = new Check();
 
   private static void plain() {
-    RoundTypes x = new RoundTypes();
+    Counted x = new Counted();
     // 0 1 ALL, 2 3 NOTHING, 4 5 INT, 6 7 BOOL
     for (int i = 0; i < 8; i++) {
       Check.type(x, i / 2 + 1);
@@ -29,7 +29,7 @@ final class BoundsTest {
   }
 
   private static void functions() {
-    RoundTypes x = new RoundTypes();
+    Counted x = new Counted();
     int a = Check.type(x, 5, 3, 4);
     int b = Check.type(x, 5, 4, 3);
     CHECK.due("functions united", x.unite(a, b), 6);
@@ -52,7 +52,7 @@ final class BoundsTest {
   }
 
   private static void records() {
-    RoundTypes x = new RoundTypes();
+    Counted x = new Counted();
     int a = Check.type(x, 6, 3, 1, 3, 2, 3, 4, 4);
     int b = Check.type(x, 6, 3, 0, 4, 2, 4, 4, 4);
     CHECK.due("records united", x.unite(a, b), 8);
@@ -76,7 +76,7 @@ final class BoundsTest {
   }
 
   private static void choices() {
-    RoundTypes x = new RoundTypes();
+    Counted x = new Counted();
     int a = Check.type(x, 7, 3, 1, 3, 2, 3, 4, 4);
     int b = Check.type(x, 7, 3, 0, 4, 2, 4, 4, 4);
     CHECK.due("choices united", x.unite(a, b), 8);
@@ -95,7 +95,7 @@ final class BoundsTest {
 
   /** All that is in a part comes before the next part. */
   private static void orderOfNodes() {
-    RoundTypes x = new RoundTypes();
+    Counted x = new Counted();
     int a = Check.type(x, 6, 2, 0, 6, 2, 0, 3, 1, 3, 1, 6, 1, 0, 3);
     int b = Check.type(x, 6, 2, 0, 6, 2, 0, 4, 1, 4, 1, 6, 1, 0, 4);
     CHECK.due("unite", x.unite(a, b), 12);
@@ -109,7 +109,7 @@ final class BoundsTest {
 
   /** The same two, in the same order and way, are one node in one asking. */
   private static void again() {
-    RoundTypes x = new RoundTypes();
+    Counted x = new Counted();
     // Both parts of each are one node, by an 8 around both.
     int a = Check.type(x, 8, 0, 6, 2, 0, 9, 0, 1, 9, 0);
     int b = Check.type(x, 8, 0, 6, 3, 0, 9, 0, 1, 9, 0, 2, 3);
@@ -148,12 +148,10 @@ final class BoundsTest {
   }
 
   private static void full() {
-    RoundTypes x = new RoundTypes();
+    Counted x = new Counted();
     int a = Check.type(x, 5, 3, 4);
     int b = Check.type(x, 5, 4, 3);
-    while (x.count(0) < 198) {
-      Check.type(x, 3);
-    }
+    Check.fill(x, 198);
     CHECK.due("three where two have room", x.unite(a, b), FULL);
     CHECK.due("nothing came", x.count(0), 198);
     CHECK.due("three where two have room, met", x.meet(a, b), FULL);
@@ -168,19 +166,17 @@ final class BoundsTest {
   }
 
   private static void justFull() {
-    RoundTypes x = new RoundTypes();
+    Counted x = new Counted();
     int a = Check.type(x, 5, 3, 4);
     int b = Check.type(x, 5, 4, 3);
-    while (x.count(0) < 197) {
-      Check.type(x, 3);
-    }
+    Check.fill(x, 197);
     CHECK.due("three where three have room", x.unite(a, b), 197);
     CHECK.due("count(0)", x.count(0), 200);
     CHECK.node(x, 197, 4, 3, 198, 199);
   }
 
   private static void wrong() {
-    RoundTypes x = new RoundTypes();
+    Counted x = new Counted();
     Check.type(x, 3);
     int[] bad = {-1, 1, 200, Integer.MAX_VALUE, Integer.MIN_VALUE};
     for (int n : bad) {

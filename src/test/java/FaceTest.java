@@ -87,8 +87,8 @@ final class FaceTest {
   }
 
   private static void sizes() throws IllegalAccessException {
-    RoundTypes x = new RoundTypes();
-    long[] before = room(x);
+    Counted x = new Counted();
+    long[] before = room(x.inside());
     System.out.println("an object: " + before[0] + " objects and arrays, " + before[1] + " fields and elements");
     CHECK.due("a small object", before[1] <= 125_000 ? 1 : 0, 1);
     Check.type(x, 5, 3, 3);
@@ -98,7 +98,7 @@ final class FaceTest {
       x.unite(0, 1);
       x.depth(0, 2);
     }
-    long[] after = room(x);
+    long[] after = room(x.inside());
     CHECK.due("objects after many calls", after[0], before[0]);
     CHECK.due("elements after many calls", after[1], before[1]);
   }

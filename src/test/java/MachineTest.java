@@ -8,8 +8,8 @@ final class MachineTest {
   private static final Check CHECK = new Check();
 
   /** 0 INT, 1 BOOL, 2 INT to INT, 5 a choice of 1 INT and 4 BOOL, 8 INT to NOTHING, 11 a list of INT. */
-  private static RoundTypes base() {
-    RoundTypes x = new RoundTypes();
+  private static Counted base() {
+    Counted x = new Counted();
     Check.type(x, 3);
     Check.type(x, 4);
     Check.type(x, 5, 3, 3);
@@ -20,8 +20,8 @@ final class MachineTest {
   }
 
   /** A term, run to its end: its value's number, the values and steps; run before its last step it is not done. */
-  private static RoundTypes done(int value, int values, int steps, int... text) {
-    RoundTypes x = base();
+  private static Counted done(int value, int values, int steps, int... text) {
+    Counted x = base();
     String name = Arrays.toString(text);
     CHECK.due("term() of " + name, Check.term(x, text) >= 0 ? 1 : 0, 1);
     CHECK.due("run(steps - 1) of " + name, x.run(steps - 1), NONE);
@@ -33,7 +33,7 @@ final class MachineTest {
     return x;
   }
 
-  private static void value(RoundTypes x, int k, int kind, int number) {
+  private static void value(Counted x, int k, int kind, int number) {
     CHECK.due("kind of value " + k, x.value(k, 0), kind);
     CHECK.due("number of value " + k, x.value(k, 1), number);
     if (kind < 5) {
@@ -62,7 +62,7 @@ final class MachineTest {
   }
 
   private static void records() {
-    RoundTypes x = done(2, 3, 3, 29, 2, 1, 23, 5, 6, 26);
+    Counted x = done(2, 3, 3, 29, 2, 1, 23, 5, 6, 26);
     value(x, 2, 5, 66);
     int[] parts = {NONE, 0, NONE, NONE, NONE, NONE, 1, NONE, NONE};
     for (int l = 0; l < parts.length; l++) {
@@ -70,7 +70,7 @@ final class MachineTest {
     }
     value(done(0, 1, 1, 29, 0), 0, 5, 0);
     value(done(1, 3, 4, 30, 6, 29, 2, 1, 23, 5, 6, 26), 1, 3, 1);
-    RoundTypes y = done(8, 9, 9, 29, 8, 0, 23, 0, 1, 23, 1, 2, 23, 2, 3, 23, 3, 4, 23, 4, 5, 23, 5, 6, 23, 6, 7, 23, 7);
+    Counted y = done(8, 9, 9, 29, 8, 0, 23, 0, 1, 23, 1, 2, 23, 2, 3, 23, 3, 4, 23, 4, 5, 23, 5, 6, 23, 6, 7, 23, 7);
     value(y, 8, 5, 255);
     for (int l = 0; l < 8; l++) {
       CHECK.due("part " + l + " of eight", y.value(8, l + 2), l);
@@ -78,7 +78,7 @@ final class MachineTest {
   }
 
   private static void choices() {
-    RoundTypes x = done(1, 2, 2, 31, CHOICE, 4, 26);
+    Counted x = done(1, 2, 2, 31, CHOICE, 4, 26);
     value(x, 1, 6, 4);
     for (int l = 0; l < 9; l++) {
       CHECK.due("part " + l, x.value(1, l + 2), l == 4 ? 0 : NONE);
@@ -92,7 +92,7 @@ final class MachineTest {
   private static void functions() {
     // The function's value comes before the argument's; the body is done with what was bound around the function.
     value(done(3, 4, 6, 22, 21, INT, 24, 20, 0, 23, 1, 23, 5), 3, 2, 6);
-    RoundTypes x = done(4, 5, 9, 22, 22, 21, INT, 21, INT, 24, 20, 0, 20, 1, 23, 5, 23, 8);
+    Counted x = done(4, 5, 9, 22, 22, 21, INT, 21, INT, 24, 20, 0, 20, 1, 23, 5, 23, 8);
     value(x, 0, 4, 0);
     value(x, 1, 2, 5);
     value(x, 2, 4, 0);
@@ -104,13 +104,13 @@ final class MachineTest {
     value(done(0, 1, 2, 33, INT_INT, 21, INT, 20, 0), 0, 4, 0);
     value(done(1, 2, 5, 22, 33, INT_INT, 21, INT, 20, 0, 23, 3), 1, 2, 3);
     // The next 21 has a value of its own.
-    RoundTypes y = done(2, 3, 4, 29, 2, 0, 33, INT_INT, 21, INT, 20, 0, 1, 21, INT, 23, 6);
+    Counted y = done(2, 3, 4, 29, 2, 0, 33, INT_INT, 21, INT, 20, 0, 1, 21, INT, 23, 6);
     CHECK.due("the first part", y.value(2, 2), 0);
     CHECK.due("the second part", y.value(2, 3), 1);
   }
 
   private static void itself() {
-    RoundTypes x = base();
+    Counted x = base();
     Check.term(x, 33, INT_INT, 21, INT, 20, 0);
     CHECK.due("33 without its 21", x.run(1), NONE);
     CHECK.due("its value is there", x.count(2), 1);
@@ -128,8 +128,8 @@ final class MachineTest {
   }
 
   /** Counts up from 0 to a number by calling itself; what waits for the call is a 24, or nothing. */
-  private static RoundTypes counting(int to, boolean waits) {
-    RoundTypes x = base();
+  private static Counted counting(int to, boolean waits) {
+    Counted x = base();
     Check.feed(x, 22, 33, INT_INT, 21, INT, 28, 25, 20, 0, 23, to);
     if (waits) {
       Check.feed(x, 24, 23, 0);
@@ -140,7 +140,7 @@ final class MachineTest {
 
   private static void manyCalls() {
     // Without waiting: 4 values a call and 9 steps; nothing is left open.
-    RoundTypes x = counting(499, false);
+    Counted x = counting(499, false);
     CHECK.due("499 calls", x.run(20000), 1997);
     CHECK.due("their values", x.count(2), 2000);
     CHECK.due("their steps", x.count(3), 4 + 499 * 9 + 5);
@@ -155,7 +155,7 @@ final class MachineTest {
 
   /** A term whose value is the one too many, when it is begun or when all in it is done. */
   private static void lastValue(int... text) {
-    RoundTypes x = base();
+    Counted x = base();
     // 1996 values come of these 498 calls.
     int[] calls = {22, 33, INT_INT, 21, INT, 28, 25, 20, 0, 23, 498, 22, 20, 1, 24, 20, 0, 23, 1, 20, 0, 23, 0};
     Check.feed(x, text);
@@ -181,7 +181,7 @@ final class MachineTest {
 
   private static void deepCalls() {
     // Each call leaves a 24 open; its 28 has a 25 open in it, and a term in that.
-    RoundTypes x = counting(297, true);
+    Counted x = counting(297, true);
     int answer = x.run(20000);
     CHECK.due("297 deep", answer >= 0 ? 1 : 0, 1);
     CHECK.due("the sum", x.value(answer, 1), 297);
@@ -193,7 +193,7 @@ final class MachineTest {
   }
 
   /** Lets 24s wait for their second part, so many, and then a 33 or what else is given. */
-  private static int open(RoundTypes x, int waiting, int... last) {
+  private static int open(Counted x, int waiting, int... last) {
     for (int i = 0; i < waiting; i++) {
       Check.feed(x, 24, 23, 0);
     }
@@ -201,7 +201,7 @@ final class MachineTest {
   }
 
   private static void openTerms() {
-    RoundTypes x = base();
+    Counted x = base();
     open(x, 50, 23, 7);
     CHECK.due("50 wait", x.run(20000), 100);
     CHECK.due("steps", x.count(3), 101);
@@ -218,7 +218,7 @@ final class MachineTest {
   }
 
   private static void endless() {
-    RoundTypes x = base();
+    Counted x = base();
     CHECK.due("a loop", Check.term(x, 22, 33, LOOP, 21, INT, 22, 20, 1, 20, 0, 23, 1), 10);
     CHECK.due("run(20000)", x.run(20000), NONE);
     CHECK.due("steps", x.count(3), 20000);
@@ -238,8 +238,8 @@ final class MachineTest {
   }
 
   /** 0 INT, 1 INT to INT, 4 such a function to ALL, 9 a choice. */
-  private static RoundTypes roundBase() {
-    RoundTypes x = new RoundTypes();
+  private static Counted roundBase() {
+    Counted x = new Counted();
     Check.type(x, 3);
     Check.type(x, 5, 3, 3);
     Check.type(x, 5, 5, 3, 3, 1);
@@ -251,8 +251,8 @@ final class MachineTest {
    * A function that applies itself for ever, by way of so many 22s of two 33s (5 steps, 2 values, 3 variables each) and
    * so many 32s of a variable (2 steps, no value, 1 variable): as many variables as can be bound in 20000 steps.
    */
-  private static RoundTypes goingRound(int applied, int sorted) {
-    RoundTypes x = roundBase();
+  private static Counted goingRound(int applied, int sorted) {
+    Counted x = roundBase();
     Check.feed(x, 22, 21, 9, 22, 33, 4, 21, 1);
     for (int i = 0; i < applied; i++) {
       Check.feed(x, 22, 33, 4, 21, 1);
@@ -274,7 +274,7 @@ final class MachineTest {
 
   private static void manyVariables(int applied, int sorted) {
     String name = " of " + applied + " 22s and " + sorted + " 32s";
-    RoundTypes x = goingRound(applied, sorted);
+    Counted x = goingRound(applied, sorted);
     int steps = 4 + 5 * applied + 2 * sorted;
     int values = 1 + 2 * applied;
     int rounds = (20000 - 8) / steps;
@@ -291,13 +291,13 @@ final class MachineTest {
     manyVariables(2, 19);
     manyVariables(3, 26);
     // With fewer 32s there are too many values before the steps are used up.
-    RoundTypes x = goingRound(1, 1);
+    Counted x = goingRound(1, 1);
     CHECK.due("run(20000) with many values", x.run(20000), ROOM);
     CHECK.due("its values", x.count(2), 2000);
   }
 
   private static void wrong() {
-    RoundTypes x = base();
+    Counted x = base();
     CHECK.due("no term", x.run(10), BAD);
     Check.term(x, 24, 23, 1, 23, 2);
     CHECK.due("run(3)", x.run(3), 2);

@@ -4,7 +4,7 @@ final class OrderTest {
   private static final Check CHECK = new Check();
 
   /** a against b: the depth, NONE if a is below, and the whole way. */
-  private static void two(RoundTypes x, int a, int b, int depth, int... way) {
+  private static void two(Counted x, int a, int b, int depth, int... way) {
     String name = "(" + a + ", " + b + ")";
     CHECK.due("below" + name, x.below(a, b), depth == NONE ? 1 : 0);
     CHECK.due("depth" + name, x.depth(a, b), depth);
@@ -18,7 +18,7 @@ final class OrderTest {
   }
 
   private static void plain() {
-    RoundTypes x = new RoundTypes();
+    Counted x = new Counted();
     for (int word = 1; word <= 4; word++) {
       Check.type(x, word);
     }
@@ -40,7 +40,7 @@ final class OrderTest {
   }
 
   private static void functions() {
-    RoundTypes x = new RoundTypes();
+    Counted x = new Counted();
     int intInt = Check.type(x, 5, 3, 3);
     int allNothing = Check.type(x, 5, 1, 2);
     int nothingAll = Check.type(x, 5, 2, 1);
@@ -61,7 +61,7 @@ final class OrderTest {
   }
 
   private static void records() {
-    RoundTypes x = new RoundTypes();
+    Counted x = new Counted();
     int none = Check.type(x, 6, 0);
     int one = Check.type(x, 6, 1, 3, 3);
     int two = Check.type(x, 6, 2, 3, 3, 5, 4);
@@ -88,7 +88,7 @@ final class OrderTest {
   }
 
   private static void nearest() {
-    RoundTypes x = new RoundTypes();
+    Counted x = new Counted();
     // Part 0 fails at 3, part 2 and part 5 at 1: the nearest goes before the least label.
     int a = Check.type(x, 6, 3, 0, 6, 1, 0, 6, 1, 0, 3, 2, 6, 1, 1, 3, 5, 6, 1, 4, 3);
     int b = Check.type(x, 6, 3, 0, 6, 1, 0, 6, 1, 0, 4, 2, 6, 1, 1, 4, 5, 6, 1, 4, 4);
@@ -100,7 +100,7 @@ final class OrderTest {
   }
 
   private static void round() {
-    RoundTypes x = new RoundTypes();
+    Counted x = new Counted();
     int once = Check.type(x, 8, 0, 6, 2, 0, 3, 1, 9, 0);
     int twice = Check.type(x, 8, 0, 6, 2, 0, 3, 1, 6, 2, 0, 3, 1, 9, 0);
     int behind = Check.type(x, 6, 2, 0, 3, 1, 8, 0, 6, 2, 0, 3, 1, 9, 0);
@@ -120,7 +120,7 @@ final class OrderTest {
   }
 
   /** A ring of p records by their part 0; the last one has a part 1. */
-  private static int recordRing(RoundTypes x, int p) {
+  private static int recordRing(Counted x, int p) {
     Check.feed(x, 8, 0);
     for (int i = 0; i < p - 1; i++) {
       Check.feed(x, 6, 1, 0);
@@ -130,7 +130,7 @@ final class OrderTest {
   }
 
   private static void far() {
-    RoundTypes x = new RoundTypes();
+    Counted x = new Counted();
     int a = recordRing(x, 41);
     int b = recordRing(x, 47);
     CHECK.due("depth of rings", x.depth(a, b), 46);
@@ -140,7 +140,7 @@ final class OrderTest {
 
   /** Rings of 67 and 31 functions to ALL but for one of each: what does not fit comes where that one should be above. */
   private static void farthest() {
-    RoundTypes x = new RoundTypes();
+    Counted x = new Counted();
     int a = allRing(x, 67, 4);
     int b = allRing(x, 31, 3);
     int due = 0;
@@ -164,7 +164,7 @@ final class OrderTest {
   }
 
   /** A ring of p functions by their part 0, to ALL, but for the last one's. */
-  private static int allRing(RoundTypes x, int p, int last) {
+  private static int allRing(Counted x, int p, int last) {
     Check.feed(x, 8, 0);
     for (int i = 0; i < p; i++) {
       x.feed(5);
@@ -177,7 +177,7 @@ final class OrderTest {
   }
 
   private static void wrong() {
-    RoundTypes x = new RoundTypes();
+    Counted x = new Counted();
     Check.type(x, 5, 3, 4);
     int[] bad = {-1, 3, 200, Integer.MAX_VALUE, Integer.MIN_VALUE};
     for (int n : bad) {

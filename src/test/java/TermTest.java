@@ -9,8 +9,8 @@ final class TermTest {
   private static final Check CHECK = new Check();
 
   /** 0 INT, 1 BOOL, 2 INT to INT, 5 NOTHING, 6 ALL, 7 a choice of 1 INT and 4 BOOL, 10 a choice of none. */
-  private static RoundTypes base() {
-    RoundTypes x = new RoundTypes();
+  private static Counted base() {
+    Counted x = new Counted();
     Check.type(x, 3);
     Check.type(x, 4);
     Check.type(x, 5, 3, 3);
@@ -22,7 +22,7 @@ final class TermTest {
   }
 
   private static void fault(int what, int where, int... text) {
-    RoundTypes x = base();
+    Counted x = base();
     Check.term(x, 26);
     x.run(5);
     String name = Arrays.toString(text);
@@ -36,8 +36,8 @@ final class TermTest {
   }
 
   /** A term without a fault: its type's node, and how many nodes came. */
-  private static RoundTypes good(int node, int came, int... text) {
-    RoundTypes x = base();
+  private static Counted good(int node, int came, int... text) {
+    Counted x = base();
     String name = Arrays.toString(text);
     CHECK.due("term() of " + name, Check.term(x, text), node);
     CHECK.due("place() of " + name, x.place(), NONE);
@@ -46,7 +46,7 @@ final class TermTest {
     return x;
   }
 
-  private static void kind(RoundTypes x, int k, int kind, int labels) {
+  private static void kind(Counted x, int k, int kind, int labels) {
     CHECK.due("kind of " + k, x.node(k, 0), kind);
     CHECK.due("labels of " + k, x.node(k, 1), labels);
   }
@@ -119,7 +119,7 @@ final class TermTest {
     fault(ODD, 2, 33, 0, 33, 0, 21, 0, 26);
     // No node that the term itself will make is one yet.
     fault(ODD, 3, 21, 0, 21, BASE + 1, 26);
-    RoundTypes x = new RoundTypes();
+    Counted x = new Counted();
     CHECK.due("no nodes at all", Check.term(x, 21, 0, 26), ODD);
     CHECK.due("its place", x.place(), 1);
     CHECK.due("no term", x.count(4), 0);
@@ -160,7 +160,7 @@ final class TermTest {
   }
 
   private static void functionTypes() {
-    RoundTypes x = good(BASE + 1, 2, 21, BOOL, 23, 7);
+    Counted x = good(BASE + 1, 2, 21, BOOL, 23, 7);
     kind(x, BASE + 1, 4, 3);
     CHECK.due("from", x.node(BASE + 1, 2), BOOL);
     CHECK.due("to", x.node(BASE + 1, 3), BASE);
@@ -168,7 +168,7 @@ final class TermTest {
     good(BASE, 3, 22, 21, INT, 24, 20, 0, 20, 0, 23, 5);
     fault(MISFIT, 0, 22, 21, INT, 20, 0, 26);
     fault(MISFIT, 0, 22, 23, 1, 23, 1);
-    RoundTypes y = good(BASE + 1, 2, 21, NOTHING, 22, 20, 0, 26);
+    Counted y = good(BASE + 1, 2, 21, NOTHING, 22, 20, 0, 26);
     CHECK.due("NOTHING by anything is that node", y.node(BASE + 1, 3), NOTHING);
     good(ALL, 2, 22, 21, ALL, 20, 0, 26);
     good(INT_INT, 1, 33, INT_INT, 21, INT, 20, 0);
@@ -181,19 +181,19 @@ final class TermTest {
 
   private static void branchTypes() {
     good(BASE + 1, 3, 28, 26, 23, 1, 23, 2);
-    RoundTypes x = good(BASE + 3, 4, 28, 26, 23, 1, 26);
+    Counted x = good(BASE + 3, 4, 28, 26, 23, 1, 26);
     kind(x, BASE + 3, 0, 0);
     fault(MISFIT, 0, 28, 23, 1, 23, 1, 23, 2);
     fault(MISFIT, 5, 28, 23, 1, 23, 1, 24, 26, 26);
     good(BASE + 1, 2, 21, NOTHING, 28, 20, 0, 20, 0, 23, 1);
     kind(good(BASE + 3, 4, 21, INT, 28, 26, 20, 0, 26), BASE + 2, 0, 0);
-    RoundTypes y = good(BASE + 7, 9, 28, 26, 29, 2, 0, 26, 1, 23, 1, 29, 2, 0, 23, 1, 2, 26);
+    Counted y = good(BASE + 7, 9, 28, 26, 29, 2, 0, 26, 1, 23, 1, 29, 2, 0, 23, 1, 2, 26);
     kind(y, BASE + 7, 5, 1);
     CHECK.due("the part of records united", y.node(BASE + 7, 2), BASE + 8);
   }
 
   private static void recordTypes() {
-    RoundTypes x = good(BASE + 2, 3, 29, 2, 1, 23, 1, 6, 26);
+    Counted x = good(BASE + 2, 3, 29, 2, 1, 23, 1, 6, 26);
     kind(x, BASE + 2, 5, 66);
     CHECK.due("part 1", x.node(BASE + 2, 3), BASE);
     CHECK.due("part 6", x.node(BASE + 2, 8), BASE + 1);
@@ -202,7 +202,7 @@ final class TermTest {
     fault(MISFIT, 0, 30, 5, 29, 2, 1, 23, 1, 6, 26);
     fault(MISFIT, 0, 30, 5, 23, 1);
     fault(MISFIT, 2, 21, CHOICE, 30, 1, 20, 0);
-    RoundTypes y = good(BASE, 1, 21, NOTHING, 30, 5, 20, 0);
+    Counted y = good(BASE, 1, 21, NOTHING, 30, 5, 20, 0);
     CHECK.due("a part of NOTHING is that node", y.node(BASE, 3), NOTHING);
   }
 
@@ -217,14 +217,14 @@ final class TermTest {
     fault(MISFIT, 0, 32, 1, 1, 26, 23, 1);
     fault(MISFIT, 0, 32, 1, 1, 23, 4, 31, CHOICE, 1, 23, 9);
     fault(MISFIT, 0, 32, 0, 23, 1);
-    RoundTypes x = good(BASE + 1, 2, 21, EMPTY, 32, 0, 20, 0);
+    Counted x = good(BASE + 1, 2, 21, EMPTY, 32, 0, 20, 0);
     kind(x, BASE, 1, 0);
     kind(good(BASE + 1, 2, 21, NOTHING, 32, 0, 20, 0), BASE, 1, 0);
   }
 
   private static void sortOrder() {
     // The last E's nodes come first, a variable's before its E's, and what is united at the end.
-    RoundTypes x = good(BASE + 5, 6, 32, 3, 1, 23, 1, 4, 26, 5, 29, 0, 31, CHOICE, 1, 23, 9);
+    Counted x = good(BASE + 5, 6, 32, 3, 1, 23, 1, 4, 26, 5, 29, 0, 31, CHOICE, 1, 23, 9);
     int[] kinds = {2, 2, 3, 1, 5, 0};
     for (int i = 0; i < kinds.length; i++) {
       kind(x, BASE + i, kinds[i], 0);
@@ -238,10 +238,8 @@ final class TermTest {
   }
 
   private static void full() {
-    RoundTypes x = base();
-    while (x.count(0) < 198) {
-      Check.type(x, 3);
-    }
+    Counted x = base();
+    Check.fill(x, 198);
     CHECK.due("three where two have room", Check.term(x, 24, 23, 1, 23, 2), FULL);
     CHECK.due("place() of FULL", x.place(), NONE);
     CHECK.due("nothing came", x.count(0), 198);
@@ -257,7 +255,7 @@ final class TermTest {
   }
 
   private static void replaced() {
-    RoundTypes x = base();
+    Counted x = base();
     Check.term(x, 23, 1);
     x.run(9);
     Check.term(x, 27);

@@ -3,7 +3,7 @@ final class TextTest {
   private static final Check CHECK = new Check();
 
   private static void newObject() {
-    RoundTypes x = new RoundTypes();
+    Counted x = new Counted();
     for (int what = 0; what <= 4; what++) {
       CHECK.due("new: count(" + what + ")", x.count(what), 0);
     }
@@ -16,7 +16,7 @@ final class TextTest {
   }
 
   private static void feed() {
-    RoundTypes x = new RoundTypes();
+    Counted x = new Counted();
     for (int i = 1; i <= 200; i++) {
       CHECK.due("feed, number " + i, x.feed(i % 2 == 0 ? Integer.MIN_VALUE : 3), i);
     }
@@ -35,7 +35,7 @@ final class TextTest {
   }
 
   private static void clear() {
-    RoundTypes x = new RoundTypes();
+    Counted x = new Counted();
     Check.type(x, 5, 3, 4);
     CHECK.due("term()", Check.term(x, 24, 23, 1, 23, 2), 5);
     CHECK.due("run(10)", x.run(10), 2);
@@ -63,7 +63,7 @@ final class TextTest {
   }
 
   private static void place() {
-    RoundTypes x = new RoundTypes();
+    Counted x = new Counted();
     Check.type(x, 5, 3, 77);
     CHECK.due("place of ODD", x.place(), 2);
     CHECK.due("place once more", x.place(), 2);
@@ -81,7 +81,7 @@ final class TextTest {
   }
 
   private static void count() {
-    RoundTypes x = new RoundTypes();
+    Counted x = new Counted();
     int[] bad = {-1, 5, 6, Integer.MAX_VALUE, Integer.MIN_VALUE};
     for (int what : bad) {
       CHECK.due("count(" + what + ")", x.count(what), RoundTypes.BAD);

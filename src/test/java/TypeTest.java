@@ -5,7 +5,7 @@ final class TypeTest {
   private static final Check CHECK = new Check();
 
   private static void fault(int what, int where, int... text) {
-    RoundTypes x = new RoundTypes();
+    Counted x = new Counted();
     Check.type(x, 3);
     String name = java.util.Arrays.toString(text);
     CHECK.due("type() of " + name, Check.type(x, text), what);
@@ -66,7 +66,7 @@ final class TypeTest {
   }
 
   private static void nodes() {
-    RoundTypes x = new RoundTypes();
+    Counted x = new Counted();
     for (int kind = 0; kind < 4; kind++) {
       CHECK.due("type() of a word", Check.type(x, kind + 1), kind);
       CHECK.node(x, kind, kind, 0);
@@ -86,7 +86,7 @@ final class TypeTest {
   }
 
   private static void round() {
-    RoundTypes x = new RoundTypes();
+    Counted x = new Counted();
     CHECK.due("itself", Check.type(x, 8, 9, 5, 9, 9, 9, 9), 0);
     CHECK.node(x, 0, 4, 3, 0, 0);
     CHECK.due("two names", Check.type(x, 8, 0, 5, 8, 1, 6, 2, 0, 9, 0, 1, 9, 1, 9, 0), 1);
@@ -103,7 +103,7 @@ final class TypeTest {
   }
 
   private static void wrongNodes() {
-    RoundTypes x = new RoundTypes();
+    Counted x = new Counted();
     Check.type(x, 5, 3, 3);
     CHECK.due("node(0, -1)", x.node(0, -1), RoundTypes.BAD);
     CHECK.due("node(9, -1)", x.node(9, -1), RoundTypes.BAD);
@@ -117,18 +117,9 @@ final class TypeTest {
     }
   }
 
-  /** A text of so many nodes: a chain of functions. */
-  private static int[] chain(int nodes) {
-    int[] text = new int[nodes];
-    for (int i = 0; i < nodes; i++) {
-      text[i] = i < nodes / 2 ? 5 : 3;
-    }
-    return text;
-  }
-
   private static void full() {
-    RoundTypes x = new RoundTypes();
-    CHECK.due("199 nodes of one text", Check.type(x, chain(199)), 0);
+    Counted x = new Counted();
+    CHECK.due("199 nodes of one text", Check.type(x, Check.chain(199)), 0);
     CHECK.due("the chain's end", x.node(98, 2), 99);
     CHECK.due("the chain's last", x.node(0, 3), 198);
     CHECK.due("one too many", Check.type(x, 6, 1, 3, 3), FULL);
@@ -138,7 +129,7 @@ final class TypeTest {
     CHECK.due("the last one", Check.type(x, 8, 0, 6, 2, 0, 9, 0, 1, 9, 0), 199);
     CHECK.due("node 199", x.node(199, 3), 199);
     CHECK.due("none more", Check.type(x, 3), FULL);
-    CHECK.due("199 more", Check.type(x, chain(199)), FULL);
+    CHECK.due("99 more", Check.type(x, Check.chain(99)), FULL);
     CHECK.due("a fault comes first", Check.type(x, 5, 3, 0), ODD);
     CHECK.due("its place", x.place(), 2);
     CHECK.due("LONG comes first", Check.type(x, 3, 3), LONG);
@@ -147,24 +138,19 @@ final class TypeTest {
     CHECK.due("again from 0", Check.type(x, 3), 0);
   }
 
+  private static void deep(int what, int where, int[] text) {
+    Counted x = new Counted();
+    CHECK.due("a deep text", Check.type(x, text), what);
+    CHECK.due("its place", x.place(), where);
+  }
+
   private static void deep() {
-    RoundTypes x = new RoundTypes();
-    int[] text = new int[200];
-    java.util.Arrays.fill(text, 5);
-    CHECK.due("200 functions that do not end", Check.type(x, text), SHORT);
-    CHECK.due("their place", x.place(), 200);
-    for (int i = 0; i < 200; i += 2) {
-      text[i] = 8;
-      text[i + 1] = i / 2 % 10;
-    }
-    CHECK.due("100 8s", Check.type(x, text), SHORT);
-    CHECK.due("their place", x.place(), 200);
-    text[198] = 6;
-    text[199] = 0;
-    CHECK.due("99 8s and a record", Check.type(x, text), 0);
-    text[198] = 9;
-    CHECK.due("99 8s and a 9", Check.type(x, text), LOOSE);
-    CHECK.due("its place", x.place(), 198);
+    deep(SHORT, 200, Check.times(200, 5));
+    deep(SHORT, 200, Check.times(20, 8, 0, 8, 1, 8, 2, 8, 3, 8, 4));
+    int[] binds = Check.join(Check.times(11, 8, 0, 8, 1, 8, 2, 8, 3, 8, 4, 8, 5, 8, 6, 8, 7, 8, 9));
+    deep(0, NONE, Check.join(binds, Check.text(6, 0)));
+    deep(LOOSE, 198, Check.join(binds, Check.text(9, 0)));
+    deep(LOOSE, 198, Check.join(binds, Check.text(9, 9)));
   }
 
   public static void main(String[] args) {
