@@ -232,6 +232,8 @@ final class BoundsEdgesTest {
   private static void room(boolean united, int needed, int[] first, int[] second) {
     for (int lacking = 0; lacking <= 1; lacking++) {
       Counted x = new Counted();
+      Check.type(x, 3);
+      Check.type(x, 4);
       int a = Check.type(x, first);
       int b = Check.type(x, second);
       int before = 200 - needed + lacking;
@@ -243,6 +245,9 @@ final class BoundsEdgesTest {
       CHECK.due("the last before", x.node(before - 1, 1), 0);
       CHECK.due("place()", x.place(), NONE);
       CHECK.due("no text", x.count(1), 0);
+      boolean one = x.count(0) < 200;
+      CHECK.due("INT and BOOL then", united ? x.unite(0, 1) : x.meet(0, 1), one ? before : FULL);
+      CHECK.due("count(0)", x.count(0), one ? before + 1 : 200);
     }
   }
 
@@ -253,7 +258,7 @@ final class BoundsEdgesTest {
     room(true, 2, Check.text(7, 1, 0, 3), Check.text(7, 1, 0, 4));
     room(true, 3, Check.text(5, 3, 3), Check.text(5, 4, 4));
     room(true, 7, Check.text(5, 5, 3, 3, 5, 3, 3), Check.text(5, 5, 4, 4, 5, 4, 4));
-    room(true, 180, ring(9), ring(10));
+    room(true, 144, ring(8), ring(9));
   }
 
   private static void fullMet() {
@@ -263,7 +268,7 @@ final class BoundsEdgesTest {
     room(false, 2, Check.text(6, 1, 0, 3), Check.text(6, 1, 0, 4));
     room(false, 3, Check.text(5, 3, 3), Check.text(5, 4, 4));
     room(false, 7, Check.text(5, 5, 3, 3, 5, 3, 3), Check.text(5, 5, 4, 4, 5, 4, 4));
-    room(false, 180, ring(9), ring(10));
+    room(false, 144, ring(8), ring(9));
   }
 
   /** A ring of p functions by their part 0; part 1 of each is the first. */
@@ -294,6 +299,19 @@ final class BoundsEdgesTest {
     CHECK.due("none needed, MET", x.meet(199, 0), 199);
     CHECK.due("none needed of one alone", x.unite(199, 199), 199);
     CHECK.due("count(0)", x.count(0), 200);
+  }
+
+  /** The last node of all is the one made for the same two again. */
+  private static void againAtTheEnd() {
+    Counted x = new Counted();
+    Check.type(x, 8, 0, 6, 2, 0, 9, 0, 7, 9, 0);
+    Check.type(x, 8, 0, 6, 2, 0, 9, 0, 7, 9, 0);
+    Check.fill(x, 199);
+    CHECK.due("UNITED", x.unite(0, 1), 199);
+    CHECK.node(x, 199, 5, 129, 199, 199);
+    CHECK.due("none more", x.meet(0, 1), FULL);
+    CHECK.due("with the last", x.unite(199, 0), FULL);
+    CHECK.due("of the last alone", x.meet(199, 199), 199);
   }
 
   /** What is said of two holds of nodes beyond 127, too. */
@@ -366,6 +384,7 @@ final class BoundsEdgesTest {
     CHECK.edge("FULL: nothing comes.", BoundsEdgesTest::fullUnited);
     CHECK.edge("Two MET: a NODE. BAD; FULL.", BoundsEdgesTest::fullMet);
     CHECK.edge("200 at most", BoundsEdgesTest::mostNodes);
+    CHECK.edge("again, in that order, are the NODE that was made for them.", BoundsEdgesTest::againAtTheEnd);
     CHECK.edge("TYPES are NODES of a graph, numbered from 0 on", BoundsEdgesTest::lateNodes);
     CHECK.edge("Two UNITED: a NODE. BAD; FULL.", BoundsEdgesTest::badUnited);
     CHECK.edge("Two MET: a NODE. BAD", BoundsEdgesTest::badMet);

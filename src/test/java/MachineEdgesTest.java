@@ -131,7 +131,10 @@ final class MachineEdgesTest {
     run(x, MOST, NONE, 2, MOST);
     run(x, MOST - 1, NONE, 2, MOST - 1);
     run(x, 1, NONE, 0, 1);
-    run(x, MOST, NONE, 2, MOST);
+    // What a run uses up is there again for the next.
+    for (int i = 0; i < 5; i++) {
+      run(x, MOST, NONE, 2, MOST);
+    }
   }
 
   private static void badNumber() {
@@ -233,11 +236,12 @@ final class MachineEdgesTest {
     CHECK.due("value 2000", x.value(2000, 0), NONE);
   }
 
-  /** A term behind 1997 values and so many more of 28s, where variable 0 is a number; steps: those before it. */
+  /** A term behind 1997 values and so many more, of the 26s of 28s; variable 0 is a number. */
   private static Counted behindValues(int more, int... text) {
     return term(Check.join(Check.text(22, 21, INT), Check.times(more, 28, 26), text, Check.times(more, 20, 0), calls(498)));
   }
 
+  /** The steps before such a term. */
   private static int stepsBefore(int more) {
     return 2 + 9 * 498 + 9 + 2 * more;
   }
@@ -292,7 +296,7 @@ final class MachineEdgesTest {
   /** How many sums wait in a function that calls itself, and what comes in each call. */
   private static final int DEEP = 280, CALL = 11;
 
-  /** A term as the one that would be the so manieth that is begun and not done. */
+  /** A term that, when it is begun, makes so many that are begun and not done. */
   private static Counted inside(int place, int... text) {
     int sums = place - 3 - DEEP;
     int[] x = Check.join(Check.times(sums, 24, 23, 0), Check.text(22, 21, ALL, 23, 0, 29, 1, 0), text);
@@ -300,6 +304,7 @@ final class MachineEdgesTest {
         Check.text(24, 23, 0, 22, 20, 1, 24, 20, 0, 23, -1, 23, DEEP)));
   }
 
+  /** The steps before such a term. */
   private static int stepsInside(int place) {
     return 4 + CALL * DEEP + 4 + 2 * (place - 3 - DEEP) + 3;
   }

@@ -161,11 +161,11 @@ final class OrderEdgesTest {
 
   /**
    * Rings of 31 and 64 records. Only one of the first lacks label 1, and only one of the second asks for it: these two
-   * meet at the last of all pairs. The nodes are the last of 200.
+   * meet at the last of all pairs.
    */
-  private static void longestWay() {
+  private static void longestWay(int before) {
     Counted x = new Counted();
-    Check.fill(x, 104);
+    Check.fill(x, before);
     Check.feed(x, 8, 0);
     Check.feed(x, Check.times(30, 6, 2, 0));
     Check.feed(x, 6, 1, 0, 9, 0);
@@ -173,7 +173,7 @@ final class OrderEdgesTest {
     Check.feed(x, 8, 0);
     Check.feed(x, Check.times(63, 6, 1, 0));
     int b = Check.type(x, 6, 2, 0, 9, 0, 1, 1);
-    CHECK.due("count(0)", x.count(0), 200);
+    CHECK.due("count(0)", x.count(0), before + 96);
     CHECK.due("below", x.below(a, b), 0);
     CHECK.due("depth", x.depth(a, b), 31 * 64 - 1);
     CHECK.due("the last step", x.way(a, b, 31 * 64 - 2), 0);
@@ -181,6 +181,12 @@ final class OrderEdgesTest {
     CHECK.due("depth, asked again", x.depth(a, b), 31 * 64 - 1);
     CHECK.due("from the next pair on", x.depth(a + 1, b + 1), 31 * 64 - 2);
     CHECK.due("from the last pair on", x.depth(a + 30, b + 63), 0);
+  }
+
+  /** The first nodes of all, and the last of 200. */
+  private static void longestWays() {
+    longestWay(0);
+    longestWay(104);
   }
 
   private static void noSuchStep() {
@@ -275,7 +281,7 @@ final class OrderEdgesTest {
     CHECK.edge("Whether a is BELOW b (1 or 0). BAD: no such NODES.", OrderEdgesTest::noSuchNodes);
     CHECK.edge("The DEPTH of two; NONE: a is BELOW b. BAD.", OrderEdgesTest::noDepth);
     CHECK.edge("(the least; of FUNCTIONS 0, 1)", OrderEdgesTest::leastLabel);
-    CHECK.edge("Step k of the way to what does not fit", OrderEdgesTest::longestWay);
+    CHECK.edge("Step k of the way to what does not fit", OrderEdgesTest::longestWays);
     CHECK.edge("NONE: there is no such step. BAD.", OrderEdgesTest::noSuchStep);
     CHECK.edge("there is no such step. BAD.", OrderEdgesTest::noWay);
     CHECK.edge("200 at most", OrderEdgesTest::lastNodes);

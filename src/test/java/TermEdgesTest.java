@@ -108,6 +108,21 @@ final class TermEdgesTest {
     CHECK.due("count(0)", y.count(0), BASE + 99);
     CHECK.due("the innermost", y.node(BASE, 3), INT);
     CHECK.due("the outermost", y.node(BASE + 98, 3), BASE + 97);
+    // The last of 200 numbers is a term: each first E is false, so that it is the one chosen.
+    Counted z = base();
+    CHECK.due("a word at the end", Check.term(z, Check.join(Check.times(66, 28), Check.times(131, 27), Check.text(23, 1, 26))), BASE + 133);
+    CHECK.due("count(0)", z.count(0), BASE + 134);
+    CHECK.due("its value is BOOL", z.value(z.run(20000), 0), 3);
+    CHECK.due("and true", z.value(z.count(2) - 1, 1), 1);
+    Counted w = base();
+    int[] itself = {33, ALL, 21, INT, 26};
+    CHECK.due("a body at the end", Check.term(w, Check.join(Check.times(65, 28), Check.times(130, 27), itself)), ALL);
+    CHECK.due("its value is a function", w.value(w.run(20000), 0), 4);
+    Counted v = base();
+    int[] number = Check.join(Check.times(64, 28), Check.times(127, 27), Check.text(23, 1, 23, 2));
+    CHECK.due("a part at the end", Check.term(v, Check.join(Check.text(29, 2, 0), number, Check.text(1, 26))), BASE + 130);
+    CHECK.node(v, BASE + 130, 5, 3, BASE + 127, BASE + 129);
+    CHECK.due("it is BOOL", v.node(BASE + 129, 0), 3);
   }
 
   private static void tooGreat() {
@@ -325,6 +340,7 @@ final class TermEdgesTest {
     good(BASE + 2, kinds(2, 2, 4), 21, BOOL, 28, 20, 0, 23, 1, 23, 1);
     good(BASE + 2, kinds(2, 2, 4), 21, NOTHING, 28, 20, 0, 23, 1, 23, 1);
     good(BASE + 3, kinds(2, 3, 0, 4), 21, BOOL, 28, 20, 0, 23, 1, 26);
+    good(BASE + 3, kinds(3, 2, 0, 4), 21, CHOICE, 28, 26, 20, 0, 23, 1);
   }
 
   private static void recordPart() {
@@ -443,6 +459,8 @@ final class TermEdgesTest {
         CHECK.due("no node came", x.node(before, 0), NONE);
         x.run(1);
         CHECK.due("the term before stays", x.value(0, 1), 77);
+        CHECK.due("a shorter term", Check.term(x, 26), before < 200 ? before : FULL);
+        CHECK.due("its nodes", x.count(0), Math.min(before + 1, 200));
       }
     }
   }
@@ -494,17 +512,23 @@ final class TermEdgesTest {
   }
 
   private static void termBeforeStays() {
-    int[][] faults = {{}, {34}, {22}, {26, 26}, {24, 26, 26}, {21, 99, 26}};
+    // Some end while terms are open; what comes next does not go on there.
+    int[][] faults = {{}, {34}, {22}, {26, 26}, {29, 2, 5, 22, 26, 34}, {21, INT, 20, 1}, {32, 1, 0, 28, 26}, {22, 24, 26, 26, 26},
+        {24, 26, 26}, {21, 99, 26}};
+    int[] whats = {SHORT, ODD, SHORT, LONG, ODD, ODD, SHORT, MISFIT, MISFIT, ODD};
+    int[] places = {0, 0, 1, 1, 5, 3, 5, 1, 0, 1};
     Counted x = base();
     CHECK.due("no term yet", x.count(4), 0);
-    for (int[] text : faults) {
-      CHECK.due("a fault", Check.term(x, text) < 0 ? 1 : 0, 1);
+    for (int i = 0; i < faults.length; i++) {
+      CHECK.due("fault " + i, Check.term(x, faults[i]), whats[i]);
+      CHECK.due("its place", x.place(), places[i]);
       CHECK.due("no term", x.count(4), 0);
     }
     CHECK.due("a term", Check.term(x, 24, 23, 40, 23, 2), BASE + 2);
     CHECK.due("there is one", x.count(4), 1);
-    for (int[] text : faults) {
-      CHECK.due("a fault", Check.term(x, text) < 0 ? 1 : 0, 1);
+    for (int i = faults.length - 1; i >= 0; i--) {
+      CHECK.due("fault " + i, Check.term(x, faults[i]), whats[i]);
+      CHECK.due("its place", x.place(), places[i]);
       CHECK.due("it stays", x.count(4), 1);
       CHECK.due("and is done", x.run(3), 2);
       CHECK.due("as before", x.value(2, 1), 42);

@@ -65,7 +65,7 @@ final class TextEdgesTest {
     CHECK.due("count(1)", x.count(1), any.length);
   }
 
-  /** The whole of a full text is read, and what was fed to the text before is not. */
+  /** Whatever came of it, and however far it was read: nothing of it is read again. */
   private static void emptyThen() {
     Counted x = new Counted();
     CHECK.due("a good type", Check.type(x, 3), 0);

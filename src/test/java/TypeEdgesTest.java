@@ -238,6 +238,17 @@ final class TypeEdgesTest {
     fault(x, FULL, NONE, 3);
   }
 
+  /** The longest text where there are the most nodes: nothing of it comes, and nothing of before is changed. */
+  private static void fullByMuch() {
+    Counted x = new Counted();
+    Check.fill(x, 198);
+    Check.type(x, 7, 1, 7, 3);
+    fault(x, FULL, NONE, Check.join(Check.times(99, 5, 3), Check.text(3)));
+    CHECK.node(x, 198, 6, 128, 199);
+    CHECK.node(x, 199, 2, 0);
+    fault(x, FULL, NONE, Check.chain(9));
+  }
+
   private static void numbered() {
     Counted x = new Counted();
     CHECK.due("the first", Check.type(x, 3), 0);
@@ -316,6 +327,7 @@ final class TypeEdgesTest {
     CHECK.edge("FULL, behind these", TypeEdgesTest::fullBehindFaults);
     CHECK.edge("there are too few NODES.", TypeEdgesTest::fullByLittle);
     CHECK.edge("(No NODES come then.)", TypeEdgesTest::full);
+    CHECK.edge("there are too few NODES. (No NODES come then.)", TypeEdgesTest::fullByMuch);
     CHECK.edge("its LABELS as bits (of a FUNCTION 3, of others 0)", TypeEdgesTest::labelBits);
     CHECK.edge("NONE: no such part, or no such NODE", TypeEdgesTest::noSuchPart);
     CHECK.edge("or no such NODE", TypeEdgesTest::noSuchNode);
