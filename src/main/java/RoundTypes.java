@@ -388,7 +388,9 @@ public final class RoundTypes {
     private void forget() {
       for (int e = 0; e < size && e < PAIRS; e++) {
         int pair = (int) (queue[e] >> 8 & 255) * NODES + (int) (queue[e] & 255);
-        seen[pair >> 6] = 0;
+        if (pair < PAIRS) {
+          seen[pair >> 6] = 0;
+        }
       }
       size = 0;
     }
@@ -462,8 +464,8 @@ public final class RoundTypes {
           continue;
         }
         nextLabels[top]++;
-        int x = graph.partOf(keys[made] >> 8 & 255, label);
-        int y = graph.partOf(keys[made] & 255, label);
+        int x = graph.partOf(keyOf(made) >> 8 & 255, label);
+        int y = graph.partOf(keyOf(made) & 255, label);
         latest = x != NONE && y != NONE ? joinTop(howOfPart(made, label), x, y) : lonePart(made, x, y);
         if (latest >= 0) {
           graph.setPart(made, label, latest);
@@ -476,15 +478,19 @@ public final class RoundTypes {
       return answer;
     }
 
+    private int keyOf(int made) {
+      return made >= 0 && made < NODES ? keys[made] : 0;
+    }
+
     private int howOfPart(int made, int label) {
-      int how = keys[made] >> 16;
+      int how = keyOf(made) >> 16;
       boolean turned = graph.kindOf(made) == FUNCTION && label == 0;
       return turned ? UNITED + MET - how : how;
     }
 
     /** The part that one of two has, where that stays; NONE: it does not, or there is none. */
     private int lonePart(int made, int x, int y) {
-      boolean united = keys[made] >> 16 == UNITED;
+      boolean united = keyOf(made) >> 16 == UNITED;
       boolean choice = graph.kindOf(made) == CHOICE;
       if (united != choice) {
         return NONE;
@@ -1348,11 +1354,17 @@ public final class RoundTypes {
         give(values.add(RECORD, 0));
         return;
       }
-      openTerms[open] = term;
-      openCells[open] = cell;
-      gotCounts[open] = 0;
-      open++;
+      push(term, cell);
       want(program.kidInTurn(term, 0), cell);
+    }
+
+    private void push(int term, int cell) {
+      if (open < OPEN) {
+        openTerms[open] = term;
+        openCells[open] = cell;
+        gotCounts[open] = 0;
+        open++;
+      }
     }
 
     private void resume() {
@@ -1367,7 +1379,11 @@ public final class RoundTypes {
         return;
       }
       open = top;
-      finish(term, gotten[top * GOT], openCells[top]);
+      finish(term, gottenBy(top, 0), openCells[top]);
+    }
+
+    private int gottenBy(int row, int i) {
+      return row >= 0 && row < OPEN && i >= 0 && i < GOT ? gotten[row * GOT + i] : NONE;
     }
 
     /** How many terms must be done before a term is applied, chosen by or taken apart. */
@@ -1411,8 +1427,8 @@ public final class RoundTypes {
         labels |= 1 << program.labelOf(program.kid(term, i));
       }
       int made = values.add(RECORD, labels);
-      for (int i = 0; i < program.kidCount(term) && i < GOT; i++) {
-        values.setPart(made, program.labelOf(program.kid(term, i)), gotten[row * GOT + i]);
+      for (int i = 0; i < program.kidCount(term); i++) {
+        values.setPart(made, program.labelOf(program.kid(term, i)), gottenBy(row, i));
       }
       return made;
     }
