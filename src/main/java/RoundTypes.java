@@ -722,7 +722,8 @@ public final class RoundTypes {
     }
 
     int kid(int term, int i) {
-      return i >= 0 && i < kidCount(term) ? kids[term * KIDS + i] : NONE;
+      boolean good = term >= 0 && term < TEXT && i >= 0 && i < KIDS;
+      return good && i < kidCounts[term] ? kids[term * KIDS + i] : NONE;
     }
 
     /** The terms in a term by the order in which they are done, NONE behind them: of 32 the last stands first. */
@@ -787,17 +788,18 @@ public final class RoundTypes {
 
     /** Whether the term to come is one of those of 32 that have a label. */
     private boolean isCase() {
-      return wordAround() == SORT && lacking[open - 1] > 1;
+      return open > 0 && wordAround() == SORT && lacking[open - 1] > 1;
     }
 
     private boolean readLabel() {
-      if (wordAround() != GATHER && !isCase()) {
+      int top = open - 1;
+      if (top < 0 || wordAround() != GATHER && !isCase()) {
         return true;
       }
-      if (!text.take(labels[open - 1] + 1, LABELS - 1)) {
+      if (!text.take(labels[top] + 1, LABELS - 1)) {
         return false;
       }
-      labels[open - 1] = text.taken();
+      labels[top] = text.taken();
       return true;
     }
 
@@ -823,11 +825,12 @@ public final class RoundTypes {
     /** Puts the term into the one around it; answers its scope. */
     private int enter(int at) {
       program.add(at);
-      if (open == 0) {
+      int top = open - 1;
+      if (top < 0) {
         return NONE;
       }
-      int scope = scopes[open - 1];
-      program.addKid(terms[open - 1], at);
+      int scope = scopes[top];
+      program.addKid(terms[top], at);
       int around = wordAround();
       if (around == LAMBDA || around == ITSELF || isCase()) {
         program.setOuter(at, scope);
@@ -1369,6 +1372,9 @@ public final class RoundTypes {
 
     private void resume() {
       int top = open - 1;
+      if (top < 0 || top >= OPEN) {
+        return;
+      }
       int term = openTerms[top];
       if (gotCounts[top] < GOT) {
         gotten[top * GOT + gotCounts[top]] = got;
